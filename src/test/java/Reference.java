@@ -9,11 +9,13 @@ import java.util.TreeMap;
 
 /**
  * The document said a second time, as slowly and plainly as it can be: everything is worked out
- * anew at each call, from sets of cells, without the tricks of the class under test.
+ * anew after each change, from sets of cells, without the tricks of the class under test.
  */
 final class Reference {
     static final int UNKNOWN = -1, OUTSIDE = -2, STATE = -3, NONE = -6;
     static final int FRAME_PIECE = -100;
+
+    static final List<String> ORDERS = allOrders();
 
     record Cell(int x, int y) {
     }
@@ -29,6 +31,18 @@ final class Reference {
     }
 
     record Edge(Cell from, Cell to) {
+    }
+
+    static List<String> allOrders() {
+        List<String> orders = new ArrayList<>();
+        for (int n = 0; n < 10000; n++) {
+            String order = String.format("%04d", n);
+            if (order.contains("0") && order.contains("1") && order.contains("2")
+                    && order.contains("3")) {
+                orders.add(order);
+            }
+        }
+        return orders;
     }
 
     static final class State {
@@ -57,6 +71,21 @@ final class Reference {
 
     State s = new State();
     State[] images = new State[2];
+    // Emptied at each call that may change anything, whatever it changes.
+    private final Map<Integer, Analysis> known = new HashMap<>();
+    private Map<String, Integer> judged = null;
+
+    private void forget() {
+        known.clear();
+        judged = null;
+    }
+
+    private Analysis analyse(int layer) {
+        if (!known.containsKey(layer)) {
+            known.put(layer, new Analysis(layer));
+        }
+        return known.get(layer);
+    }
 
     boolean in(int x, int y) {
         return 0 <= x && x < s.w && 0 <= y && y < s.h;
@@ -85,6 +114,7 @@ final class Reference {
         final List<Run> runs = new ArrayList<>();
         final List<Run> bridges = new ArrayList<>();
         final List<Set<Integer>> tied;
+        final Set<Cell> bridgedOpen = new HashSet<>();
         int lowerBound = 0;
         final List<Edge> edges = new ArrayList<>();
         final List<Set<Cell>> loops = new ArrayList<>();
@@ -101,6 +131,11 @@ final class Reference {
             }
             bridges.addAll(select(false));
             tied = tiedSets(bridges);
+            for (Cell c : allCells()) {
+                if (isOpen(c) && bridgeOf(c) == NONE) {
+                    bridgedOpen.add(c);
+                }
+            }
             findEdges();
             findLoops();
             cutAll();
@@ -266,7 +301,7 @@ final class Reference {
         }
 
         boolean bridgedOpen(Cell c) {
-            return isOpen(c) && bridgeOf(c) == NONE;
+            return bridgedOpen.contains(c);
         }
 
         boolean loose(int island) {
@@ -382,6 +417,7 @@ final class Reference {
     }
 
     int sheet(int wide, int high) {
+        forget();
         if (!between(wide, 3, 10) || !between(high, 3, 10)) {
             return OUTSIDE;
         }
@@ -394,6 +430,7 @@ final class Reference {
     }
 
     int cut(int layer, int x, int y, int on) {
+        forget();
         if (!between(layer, 0, 3)) {
             return UNKNOWN;
         }
@@ -405,6 +442,7 @@ final class Reference {
     }
 
     int row(int layer, int y, int bits) {
+        forget();
         if (!between(layer, 0, 3)) {
             return UNKNOWN;
         }
@@ -418,6 +456,7 @@ final class Reference {
     }
 
     int wish(int x, int y, int colour) {
+        forget();
         if (!in(x, y) || !between(colour, 0, 4)) {
             return OUTSIDE;
         }
@@ -433,7 +472,7 @@ final class Reference {
         if (!in(x, y) || !between(what, 0, 3)) {
             return OUTSIDE;
         }
-        Analysis a = new Analysis(layer);
+        Analysis a = analyse(layer);
         Cell c = new Cell(x, y);
         return switch (what) {
             case 0 -> a.isOpen(c) ? 1 : 0;
@@ -450,7 +489,7 @@ final class Reference {
         if (!between(what, 0, 7)) {
             return OUTSIDE;
         }
-        Analysis a = new Analysis(layer);
+        Analysis a = analyse(layer);
         return switch (what) {
             case 0 -> open(layer);
             case 1 -> a.islands.size();
@@ -470,7 +509,7 @@ final class Reference {
         if (!between(what, 0, 5)) {
             return OUTSIDE;
         }
-        Analysis a = new Analysis(layer);
+        Analysis a = analyse(layer);
         if (!between(i, 0, a.islands.size() - 1)) {
             return NONE;
         }
@@ -491,7 +530,7 @@ final class Reference {
         if (!between(what, 0, 5)) {
             return OUTSIDE;
         }
-        Analysis a = new Analysis(layer);
+        Analysis a = analyse(layer);
         if (!between(b, 0, a.bridges.size() - 1)) {
             return NONE;
         }
@@ -513,7 +552,7 @@ final class Reference {
         if (!between(what, 0, 2)) {
             return OUTSIDE;
         }
-        Analysis a = new Analysis(layer);
+        Analysis a = analyse(layer);
         return what == 0 ? a.edges.size() : what == 1 ? a.loops.size() : a.air;
     }
 
@@ -524,7 +563,7 @@ final class Reference {
         if (!between(what, 0, 3)) {
             return OUTSIDE;
         }
-        Analysis a = new Analysis(layer);
+        Analysis a = analyse(layer);
         if (!between(k, 0, a.loops.size() - 1)) {
             return NONE;
         }
@@ -538,22 +577,22 @@ final class Reference {
 
     /** All orders with the number of cells that are wrong by each, by ascending number. */
     Map<String, Integer> judge() {
+        if (judged != null) {
+            return judged;
+        }
         Analysis[] layers = new Analysis[4];
         for (int l = 0; l < 4; l++) {
-            layers[l] = new Analysis(l);
+            layers[l] = analyse(l);
         }
         Map<String, Integer> wrong = new TreeMap<>();
-        for (int n = 0; n < 10000; n++) {
-            String order = String.format("%04d", n);
-            if (order.contains("0") && order.contains("1") && order.contains("2")
-                    && order.contains("3")) {
-                int found = 0;
-                for (Cell c : allCells()) {
-                    found += colour(order, c, layers) == s.wish[c.y][c.x] ? 0 : 1;
-                }
-                wrong.put(order, found);
+        for (String order : ORDERS) {
+            int found = 0;
+            for (Cell c : allCells()) {
+                found += colour(order, c, layers) == s.wish[c.y][c.x] ? 0 : 1;
             }
+            wrong.put(order, found);
         }
+        judged = wrong;
         return wrong;
     }
 
@@ -583,7 +622,7 @@ final class Reference {
         }
         Analysis[] layers = new Analysis[4];
         for (int l = 0; l < 4; l++) {
-            layers[l] = new Analysis(l);
+            layers[l] = analyse(l);
         }
         return colour(bestOf(judge()), new Cell(x, y), layers);
     }
@@ -606,6 +645,7 @@ final class Reference {
     }
 
     int image(int k) {
+        forget();
         if (!between(k, 0, 1)) {
             return OUTSIDE;
         }
@@ -614,6 +654,7 @@ final class Reference {
     }
 
     int restore(int k) {
+        forget();
         if (!between(k, 0, 1)) {
             return OUTSIDE;
         }
@@ -637,7 +678,7 @@ final class Reference {
             case 4:
                 int found = 0;
                 for (int l = 0; l < 4; l++) {
-                    found += new Analysis(l).looseIslands() > 0 ? 1 : 0;
+                    found += analyse(l).looseIslands() > 0 ? 1 : 0;
                 }
                 return found;
             case 5:
