@@ -108,7 +108,7 @@ public final class StencilCuts {
         if (what == 0) {
             return current.isOpen(layer, x, y) ? 1 : 0;
         }
-        Plan plan = bridgedPlan(layer);
+        Plan plan = plans[layer].bridged(current, layer);
         int place = placeOf(x, y);
         switch (what) {
             case 1:
@@ -130,7 +130,7 @@ public final class StencilCuts {
         if (what == 0) {
             return current.openCells(layer);
         }
-        Plan plan = bridgedPlan(layer);
+        Plan plan = plans[layer].bridged(current, layer);
         switch (what) {
             case 1:
                 return plan.parts.islands;
@@ -156,7 +156,7 @@ public final class StencilCuts {
         if (!isWithin(what, 0, 5)) {
             return OUTSIDE;
         }
-        Plan plan = bridgedPlan(layer);
+        Plan plan = plans[layer].bridged(current, layer);
         int part = plan.parts.partOfIsland(i);
         if (part == NONE) {
             return NONE;
@@ -184,7 +184,7 @@ public final class StencilCuts {
         if (!isWithin(what, 0, 5)) {
             return OUTSIDE;
         }
-        Plan plan = bridgedPlan(layer);
+        Plan plan = plans[layer].bridged(current, layer);
         if (!isWithin(b, 0, plan.bridges.chosen - 1)) {
             return NONE;
         }
@@ -212,7 +212,7 @@ public final class StencilCuts {
         if (!isWithin(what, 0, 2)) {
             return OUTSIDE;
         }
-        Knife knife = plannedKnife(layer);
+        Knife knife = plans[layer].routed(current, layer);
         switch (what) {
             case 0:
                 return knife.edges;
@@ -230,7 +230,7 @@ public final class StencilCuts {
         if (!isWithin(what, 0, 3)) {
             return OUTSIDE;
         }
-        Knife knife = plannedKnife(layer);
+        Knife knife = plans[layer].routed(current, layer);
         if (!isWithin(k, 0, knife.loops - 1)) {
             return NONE;
         }
@@ -330,7 +330,7 @@ public final class StencilCuts {
     private int looseLayers() {
         int found = 0;
         for (int layer = 0; layer < LAYERS; layer++) {
-            if (bridgedPlan(layer).bridges.looseIslands() > 0) {
+            if (plans[layer].bridged(current, layer).bridges.looseIslands() > 0) {
                 found++;
             }
         }
@@ -348,24 +348,12 @@ public final class StencilCuts {
         }
     }
 
-    private Plan bridgedPlan(int layer) {
-        Plan plan = plans[layer];
-        plan.planBridges(current, layer);
-        return plan;
-    }
-
-    private Knife plannedKnife(int layer) {
-        Plan plan = bridgedPlan(layer);
-        plan.planKnife();
-        return plan.knife;
-    }
-
     private void judgePicture() {
         if (picture.fresh) {
             return;
         }
         for (int layer = 0; layer < LAYERS; layer++) {
-            bridgedPlan(layer);
+            plans[layer].bridged(current, layer);
         }
         picture.clear();
         for (int y = 0; y < current.high; y++) {
@@ -519,20 +507,29 @@ public final class StencilCuts {
             knifeFresh = false;
         }
 
-        void planBridges(Sheet sheet, int layer) {
+        /** This plan, with parts and bridges that fit the sheet. */
+        Plan bridged(Sheet sheet, int layer) {
             if (!bridgesFresh) {
                 parts.find(sheet, layer);
-                bridges.choose();
+                bridges.runs = 0;
+                bridges.findRuns(0);
+                bridges.findRuns(1);
+                bridges.findLowerBound();
+                bridges.build();
                 bridgesFresh = true;
             }
+            return this;
         }
 
-        void planKnife() {
+        /** The knife, with loops and a way that fit the sheet. */
+        Knife routed(Sheet sheet, int layer) {
+            bridged(sheet, layer);
             if (!knifeFresh) {
                 knife.findLoops();
                 knife.planWay();
                 knifeFresh = true;
             }
+            return knife;
         }
     }
 
@@ -697,11 +694,11 @@ public final class StencilCuts {
         }
 
         static boolean isVertical(int run) {
-            return run / PLACES % 2 == 1;
+            return stepOf(run) == PITCH;
         }
 
         static int stepOf(int run) {
-            return isVertical(run) ? PITCH : 1;
+            return run / PLACES % 2 == 1 ? PITCH : 1;
         }
 
         static int lengthOf(int run) {
@@ -716,15 +713,8 @@ public final class StencilCuts {
             return startOf(run) + lengthOf(run) * stepOf(run);
         }
 
-        void choose() {
-            runs = 0;
-            findRuns(0);
-            findRuns(1);
-            findLowerBound();
-            build();
-        }
-
-        private void findRuns(int vertical) {
+        /** Adds all runs of one direction: 0 horizontal, 1 vertical. */
+        void findRuns(int vertical) {
             int step = vertical == 1 ? PITCH : 1;
             for (int start = step; start < PLACES; start++) {
                 if (parts.open[start] && !parts.open[start - step]) {
@@ -761,7 +751,7 @@ public final class StencilCuts {
             runs++;
         }
 
-        private void findLowerBound() {
+        void findLowerBound() {
             untieAll();
             lowerBound = 0;
             for (int r = 0; r < runs; r++) {
@@ -772,7 +762,7 @@ public final class StencilCuts {
             }
         }
 
-        private void build() {
+        void build() {
             untieAll();
             System.arraycopy(parts.open, 0, open, 0, PLACES);
             Arrays.fill(bridgeAt, NONE);
@@ -819,19 +809,16 @@ public final class StencilCuts {
         }
 
         private boolean touchesBridge(int place) {
-            if (hasBridge(place)) {
+            if (isPlace(place) && bridgeAt[place] != NONE) {
                 return true;
             }
             for (int step : STEPS) {
-                if (hasBridge(place + step)) {
+                int next = place + step;
+                if (isPlace(next) && bridgeAt[next] != NONE) {
                     return true;
                 }
             }
             return false;
-        }
-
-        private boolean hasBridge(int place) {
-            return isPlace(place) && bridgeAt[place] != NONE;
         }
 
         private void addBridge(int added) {

@@ -111,11 +111,14 @@ public final class PromisesTest {
         }
         Check.due("2: an error keeps the cells", x.count(2), 11);
         Check.due("2: an error keeps the size", x.count(0), 10);
+        Check.due("2: edges before", x.knife(0, 0), 22);
+        Check.due("2: wrong cells before", x.best(1), 11);
         Check.due("2: the same size", x.sheet(10, 3), 30);
         Check.due("2: cells are closed", x.count(2), 0);
         Check.due("2: wishes are 0", x.count(3), 0);
         Check.due("2: this wish is 0", x.wish(9, 2, 1), 0);
         Check.due("2: plans are new", x.knife(0, 0), 0);
+        Check.due("2: so is the picture", x.best(1), 1);
         Check.due("2: images stay", x.count(5), 2);
         Check.due("2: restore", x.restore(1), 1);
         Check.due("2: restored W", x.count(0), 8);
