@@ -2,15 +2,21 @@
 final class Check {
     private static int checks = 0;
     private static int wrong = 0;
+    private static String sentence = "";
 
     private Check() {
+    }
+
+    /** The sentence of the document that the checks from here on are about. */
+    static void sentence(String quoted) {
+        sentence = "\"" + quoted + "\": ";
     }
 
     static void due(String call, long got, long want) {
         checks++;
         if (got != want) {
             wrong++;
-            System.out.println(call + " answered " + got + ", due is " + want);
+            System.out.println(sentence + call + " answered " + got + ", due is " + want);
         }
     }
 
@@ -18,7 +24,7 @@ final class Check {
         checks++;
         if (!truth) {
             wrong++;
-            System.out.println("does not hold: " + what);
+            System.out.println(sentence + "does not hold: " + what);
         }
     }
 

@@ -55,23 +55,6 @@ public final class PromisesTest {
         Check.finish();
     }
 
-    private static StencilCuts drawn(int layer, String... lines) {
-        StencilCuts x = new StencilCuts();
-        x.sheet(lines[0].length(), lines.length);
-        draw(x, layer, lines);
-        return x;
-    }
-
-    private static void draw(StencilCuts x, int layer, String... lines) {
-        for (int y = 0; y < lines.length; y++) {
-            int bits = 0;
-            for (int column = 0; column < lines[y].length(); column++) {
-                bits |= lines[y].charAt(column) == '#' ? 1 << column : 0;
-            }
-            x.row(layer, y, bits);
-        }
-    }
-
     private static void promise1() {
         StencilCuts x = new StencilCuts();
         Check.due("1: W", x.count(0), 8);
@@ -186,7 +169,7 @@ public final class PromisesTest {
     }
 
     private static void promise6() {
-        StencilCuts x = drawn(1, RING);
+        StencilCuts x = Drawing.of(1, RING);
         Check.due("6: open", x.cell(1, 1, 1, 0), 1);
         Check.due("6: a bridge is open", x.cell(1, 1, 2, 0), 1);
         Check.due("6: closed", x.cell(1, 2, 2, 0), 0);
@@ -209,62 +192,50 @@ public final class PromisesTest {
         Check.due("6: what is -1", x.cell(1, 0, 0, -1), OUTSIDE);
         x.cut(1, 2, 1, 0);
         Check.due("6: the state at the time of the call", x.cell(1, 2, 2, 1), NONE);
-        StencilCuts holes = drawn(0, "#.#", ".#.", "#.#");
+        StencilCuts holes = Drawing.of(0, "#.#", ".#.", "#.#");
         int[] due = {0, NONE, 1, NONE, 2, NONE, 3, NONE, 4};
         for (int k = 0; k < 9; k++) {
             Check.due("6: holes by order of cells, " + k, holes.cell(0, k % 3, k / 3, 2), due[k]);
         }
     }
 
-    private static void dueCounts(String name, StencilCuts x, int layer, int... due) {
-        for (int what = 0; what < due.length; what++) {
-            Check.due(name + " " + what, x.layer(layer, what), due[what]);
-        }
-    }
-
     private static void promise7() {
-        dueCounts("7: ring", drawn(1, RING), 1, 8, 1, 1, 1, 1, 0, 1, 4);
-        dueCounts("7: loose", drawn(2, LOOSE), 2, 21, 5, 4, 4, 4, 1, 5, 18);
-        dueCounts("7: all open", drawn(0, "###", "###", "###"), 0, 9, 0, 1, 0, 0, 0, 0, 0);
+        Due.layer("7: ring", Drawing.of(1, RING), 1, 8, 1, 1, 1, 1, 0, 1, 4);
+        Due.layer("7: loose", Drawing.of(2, LOOSE), 2, 21, 5, 4, 4, 4, 1, 5, 18);
+        Due.layer("7: all open", Drawing.of(0, "###", "###", "###"), 0, 9, 0, 1, 0, 0, 0, 0, 0);
         // Closed cells that touch at a corner alone are not connected; the frame joins the rest.
-        dueCounts("7: corner", drawn(0, ".##.", "#.##", "##.#", ".##."), 0, 10, 2, 2, 2, 2, 0, 2, 8);
-        StencilCuts x = drawn(2, LOOSE);
+        Due.layer("7: corner", Drawing.of(0, ".##.", "#.##", "##.#", ".##."), 0, 10, 2, 2, 2, 2, 0, 2, 8);
+        StencilCuts x = Drawing.of(2, LOOSE);
         Check.due("7: layer 4", x.layer(4, 0), UNKNOWN);
         Check.due("7: UNKNOWN comes first", x.layer(-1, 8), UNKNOWN);
         Check.due("7: what is 8", x.layer(2, 8), OUTSIDE);
         Check.due("7: what is -1", x.layer(2, -1), OUTSIDE);
         Check.due("7: what is low", x.layer(2, LOW), OUTSIDE);
-        dueCounts("7: another layer", x, 1, 0, 0, 0, 0, 0, 0, 0, 0);
+        Due.layer("7: another layer", x, 1, 0, 0, 0, 0, 0, 0, 0, 0);
     }
 
     private static void promise7Runs() {
         // Two runs of 1 cell and two of 2; the horizontal one of 1 cell is taken.
-        StencilCuts x = drawn(0, "......", ".####.", ".####.", ".##.#.", ".####.", "......");
-        dueCounts("7: lengths", x, 0, 15, 1, 1, 1, 1, 0, 1, 4);
+        StencilCuts x = Drawing.of(0, "......", ".####.", ".####.", ".##.#.", ".####.", "......");
+        Due.layer("7: lengths", x, 0, 15, 1, 1, 1, 1, 0, 1, 4);
         x.cut(0, 5, 3, 1);
         x.cut(0, 3, 5, 1);
         // Now all runs have 2 cells, and the vertical ones come later.
-        dueCounts("7: longer", x, 0, 17, 1, 1, 1, 2, 0, 2, 4);
+        Due.layer("7: longer", x, 0, 17, 1, 1, 1, 2, 0, 2, 4);
         Check.due("7: the first cell of the first one", x.bridge(0, 0, 0), 1);
         Check.due("7: and its y", x.bridge(0, 0, 1), 3);
     }
 
-    private static void dueIsland(String name, StencilCuts x, int layer, int i, int... due) {
-        for (int what = 0; what < due.length; what++) {
-            Check.due(name + " " + i + ", " + what, x.island(layer, i, what), due[what]);
-        }
-    }
-
     private static void promise8() {
-        StencilCuts x = drawn(2, LOOSE);
-        dueIsland("8: loose", x, 2, 0, 2, 2, 1, 1, 0, 2);
-        dueIsland("8: loose", x, 2, 1, 1, 2, 4, 1, 0, 1);
-        dueIsland("8: loose", x, 2, 2, 1, 2, 3, 2, 1, 0);
-        dueIsland("8: loose", x, 2, 3, 1, 2, 2, 3, 0, 1);
-        dueIsland("8: loose", x, 2, 4, 1, 2, 4, 3, 0, 2);
-        StencilCuts nested = drawn(3, NESTED);
-        dueIsland("8: nested", nested, 3, 0, 16, 2, 2, 2, 0, 2);
-        dueIsland("8: nested", nested, 3, 1, 1, 4, 4, 4, 0, 1);
+        StencilCuts x = Drawing.of(2, LOOSE);
+        Due.island("8: loose", x, 2, 0, 2, 2, 1, 1, 0, 2);
+        Due.island("8: loose", x, 2, 1, 1, 2, 4, 1, 0, 1);
+        Due.island("8: loose", x, 2, 2, 1, 2, 3, 2, 1, 0);
+        Due.island("8: loose", x, 2, 3, 1, 2, 2, 3, 0, 1);
+        Due.island("8: loose", x, 2, 4, 1, 2, 4, 3, 0, 2);
+        StencilCuts nested = Drawing.of(3, NESTED);
+        Due.island("8: nested", nested, 3, 0, 16, 2, 2, 2, 0, 2);
+        Due.island("8: nested", nested, 3, 1, 1, 4, 4, 4, 0, 1);
         Check.due("8: no island 5", x.island(2, 5, 0), NONE);
         Check.due("8: no island -1", x.island(2, -1, 0), NONE);
         Check.due("8: no island -6", x.island(2, NONE, 0), NONE);
@@ -276,24 +247,18 @@ public final class PromisesTest {
         Check.due("8: UNKNOWN comes first", x.island(-1, -1, 6), UNKNOWN);
     }
 
-    private static void dueBridge(String name, StencilCuts x, int layer, int b, int... due) {
-        for (int what = 0; what < due.length; what++) {
-            Check.due(name + " " + b + ", " + what, x.bridge(layer, b, what), due[what]);
-        }
-    }
-
     private static void promise9() {
-        StencilCuts x = drawn(2, LOOSE);
-        dueBridge("9: loose", x, 2, 0, 0, 1, 1, 0, NONE, 0);
-        dueBridge("9: loose", x, 2, 1, 3, 1, 1, 0, 0, 1);
-        dueBridge("9: loose", x, 2, 2, 3, 3, 1, 0, 3, 4);
-        dueBridge("9: loose", x, 2, 3, 5, 3, 1, 0, 4, NONE);
-        StencilCuts vertical = drawn(0, "#####", "##.##", "#####");
-        dueBridge("9: vertical", vertical, 0, 0, 2, 0, 1, 1, NONE, 0);
-        StencilCuts below = drawn(0, "#####", "#####", "#####", "##.##", "#####");
-        dueBridge("9: below", below, 0, 0, 2, 4, 1, 1, 0, NONE);
-        StencilCuts wide = drawn(0, "#####", "#####", "##.##", "#####", "#####");
-        dueBridge("9: horizontal before vertical", wide, 0, 0, 0, 2, 2, 0, NONE, 0);
+        StencilCuts x = Drawing.of(2, LOOSE);
+        Due.bridge("9: loose", x, 2, 0, 0, 1, 1, 0, NONE, 0);
+        Due.bridge("9: loose", x, 2, 1, 3, 1, 1, 0, 0, 1);
+        Due.bridge("9: loose", x, 2, 2, 3, 3, 1, 0, 3, 4);
+        Due.bridge("9: loose", x, 2, 3, 5, 3, 1, 0, 4, NONE);
+        StencilCuts vertical = Drawing.of(0, "#####", "##.##", "#####");
+        Due.bridge("9: vertical", vertical, 0, 0, 2, 0, 1, 1, NONE, 0);
+        StencilCuts below = Drawing.of(0, "#####", "#####", "#####", "##.##", "#####");
+        Due.bridge("9: below", below, 0, 0, 2, 4, 1, 1, 0, NONE);
+        StencilCuts wide = Drawing.of(0, "#####", "#####", "##.##", "#####", "#####");
+        Due.bridge("9: horizontal before vertical", wide, 0, 0, 0, 2, 2, 0, NONE, 0);
         Check.due("9: no bridge 4", x.bridge(2, 4, 0), NONE);
         Check.due("9: no bridge -1", x.bridge(2, -1, 0), NONE);
         Check.due("9: no bridge low", x.bridge(2, LOW, 0), NONE);
@@ -304,51 +269,39 @@ public final class PromisesTest {
         Check.due("9: UNKNOWN comes first", x.bridge(-1, -1, 6), UNKNOWN);
     }
 
-    private static void dueKnife(String name, StencilCuts x, int layer, int... due) {
-        for (int what = 0; what < due.length; what++) {
-            Check.due(name + " " + what, x.knife(layer, what), due[what]);
-        }
-    }
-
     private static void promise10() {
-        StencilCuts x = drawn(2, LOOSE);
-        dueKnife("10: loose", x, 2, 36, 3, 6);
-        dueKnife("10: closed", x, 0, 0, 0, 0);
-        dueKnife("10: ring", drawn(0, RING), 0, 16, 1, 2);
-        dueKnife("10: all open", drawn(0, "####", "####", "####"), 0, 14, 1, 0);
-        dueKnife("10: a common corner makes one loop", drawn(0, "...", ".#.", "..#"), 0, 8, 1, 2);
-        dueKnife("10: two loops", drawn(0, "#..", "...", "..#"), 0, 8, 2, 4);
+        StencilCuts x = Drawing.of(2, LOOSE);
+        Due.knife("10: loose", x, 2, 36, 3, 6);
+        Due.knife("10: closed", x, 0, 0, 0, 0);
+        Due.knife("10: ring", Drawing.of(0, RING), 0, 16, 1, 2);
+        Due.knife("10: all open", Drawing.of(0, "####", "####", "####"), 0, 14, 1, 0);
+        Due.knife("10: a common corner makes one loop", Drawing.of(0, "...", ".#.", "..#"), 0, 8, 1, 2);
+        Due.knife("10: two loops", Drawing.of(0, "#..", "...", "..#"), 0, 8, 2, 4);
         Check.due("10: layer 4", x.knife(4, 0), UNKNOWN);
         Check.due("10: UNKNOWN comes first", x.knife(-1, 3), UNKNOWN);
         Check.due("10: what is 3", x.knife(2, 3), OUTSIDE);
         Check.due("10: what is -1", x.knife(2, -1), OUTSIDE);
     }
 
-    private static void dueLoop(String name, StencilCuts x, int layer, int k, int... due) {
-        for (int what = 0; what < due.length; what++) {
-            Check.due(name + " " + k + ", " + what, x.loop(layer, k, what), due[what]);
-        }
-    }
-
     private static void promise11() {
-        StencilCuts x = drawn(2, LOOSE);
-        dueLoop("11: loose", x, 2, 0, 0, 6, 1, 0);
-        dueLoop("11: loose", x, 2, 1, 2, 18, 1, 2);
-        dueLoop("11: loose", x, 2, 2, 1, 12, 4, 2);
+        StencilCuts x = Drawing.of(2, LOOSE);
+        Due.loop("11: loose", x, 2, 0, 0, 6, 1, 0);
+        Due.loop("11: loose", x, 2, 1, 2, 18, 1, 2);
+        Due.loop("11: loose", x, 2, 2, 1, 12, 4, 2);
         // From (0, 0), (4, 1) of loop 2 is as far as (2, 3) of loop 1, and the first one of them.
-        StencilCuts tie = drawn(0,
+        StencilCuts tie = Drawing.of(0,
                 "#.....#.",
                 "....#.#.",
                 "......#.",
                 "..#####.",
                 "........");
-        dueLoop("11: tie of loops", tie, 0, 0, 0, 4, 0, 0);
-        dueLoop("11: tie of loops", tie, 0, 1, 1, 18, 2, 3);
-        dueLoop("11: tie of loops", tie, 0, 2, 2, 4, 4, 2);
+        Due.loop("11: tie of loops", tie, 0, 0, 0, 4, 0, 0);
+        Due.loop("11: tie of loops", tie, 0, 1, 1, 18, 2, 3);
+        Due.loop("11: tie of loops", tie, 0, 2, 2, 4, 4, 2);
         Check.due("11: its air path", tie.knife(0, 2), 8);
         // (2, 0) and (1, 1), or (2, 0) and (0, 2), are of one loop and equally far from (0, 0).
-        dueLoop("11: tie of corners", drawn(0, "..#", ".##", "##."), 0, 0, 0, 12, 2, 0);
-        dueLoop("11: tie of corners", drawn(0, "..##", "...#", "####", "...."), 0, 0, 0, 16, 2, 0);
+        Due.loop("11: tie of corners", Drawing.of(0, "..#", ".##", "##."), 0, 0, 0, 12, 2, 0);
+        Due.loop("11: tie of corners", Drawing.of(0, "..##", "...#", "####", "...."), 0, 0, 0, 16, 2, 0);
         Check.due("11: no loop 3", x.loop(2, 3, 0), NONE);
         Check.due("11: no loop -1", x.loop(2, -1, 0), NONE);
         Check.due("11: no loop low", x.loop(2, LOW, 3), NONE);
@@ -387,7 +340,7 @@ public final class PromisesTest {
         Check.due("12: y is H", x.paint(0, 3), OUTSIDE);
         Check.due("12: x is -1", x.paint(-1, 0), OUTSIDE);
         Check.due("12: y is low", x.paint(0, LOW), OUTSIDE);
-        StencilCuts ring = drawn(0, RING);
+        StencilCuts ring = Drawing.of(0, RING);
         Check.due("12: a bridge takes no colour", ring.paint(1, 2), 0);
         Check.due("12: the rest of the ring does", ring.paint(3, 2), 1);
     }
@@ -409,7 +362,7 @@ public final class PromisesTest {
         }
         Check.due("13: orders", orders, 24);
         // The wishes are met on the whole ring but at its bridge, which stays without paint.
-        StencilCuts ring = drawn(2, RING);
+        StencilCuts ring = Drawing.of(2, RING);
         for (int k = 0; k < 25; k++) {
             ring.wish(k % 5, k / 5, ring.cell(2, k % 5, k / 5, 0) * 3);
         }
@@ -468,7 +421,7 @@ public final class PromisesTest {
     }
 
     private static void promise16() {
-        StencilCuts x = drawn(2, LOOSE);
+        StencilCuts x = Drawing.of(2, LOOSE);
         x.wish(5, 4, 2);
         x.image(0);
         Check.due("16: k is 2", x.restore(2), OUTSIDE);
@@ -478,8 +431,8 @@ public final class PromisesTest {
         x.sheet(10, 10);
         Check.due("16: another sheet", x.knife(2, 0), 0);
         Check.due("16: restore", x.restore(0), 1);
-        dueCounts("16: layer", x, 2, 21, 5, 4, 4, 4, 1, 5, 18);
-        dueKnife("16: knife", x, 2, 36, 3, 6);
+        Due.layer("16: layer", x, 2, 21, 5, 4, 4, 4, 1, 5, 18);
+        Due.knife("16: knife", x, 2, 36, 3, 6);
         Check.due("16: W", x.count(0), 6);
         Check.due("16: H", x.count(1), 5);
         Check.due("16: the wish", x.wish(5, 4, 0), 2);
@@ -491,9 +444,9 @@ public final class PromisesTest {
     }
 
     private static void promise17() {
-        StencilCuts x = drawn(2, LOOSE);
-        draw(x, 0, LOOSE);
-        draw(x, 1, "......", ".###..", ".#.#..", ".###..", "......");
+        StencilCuts x = Drawing.of(2, LOOSE);
+        Drawing.add(x, 0, LOOSE);
+        Drawing.add(x, 1, "......", ".###..", ".#.#..", ".###..", "......");
         x.wish(0, 0, 1);
         x.wish(5, 4, 4);
         Check.due("17: W", x.count(0), 6);
@@ -516,7 +469,7 @@ public final class PromisesTest {
 
     private static void errorsChangeNothing() {
         StencilCuts x = painted();
-        draw(x, 3, "###", "#.#", "###");
+        Drawing.add(x, 3, "###", "#.#", "###");
         String before = answers(x);
         x.sheet(3, 11);
         x.cut(0, 0, 3, 1);

@@ -6,6 +6,9 @@ public final class ReferenceTest {
     private static final int[] ODD = {Integer.MIN_VALUE, -7, -6, -2, -1, 4, 5, 6, 7, 8, 9, 10, 11,
         12, 100, 1023, 1024, Integer.MAX_VALUE};
 
+    private static final int LAST_CALL = 512;
+    private static final int EDGE_SHAPES = 8;
+
     private final Random random;
     private final StencilCuts real = new StencilCuts();
     private final Reference plain = new Reference();
@@ -29,6 +32,11 @@ public final class ReferenceTest {
         }
         for (int bits = 0; bits < 1 << 16 && Check.wrongSoFar() < 20; bits += 61) {
             new ReferenceTest("4 by 4 sheet " + bits, bits).smallRun(4, bits);
+        }
+        for (int shape = 0; shape < EDGE_SHAPES * 64 && Check.wrongSoFar() < 20; shape++) {
+            int wide = 3 + shape % 8;
+            int high = 3 + shape / 8 % 8;
+            new ReferenceTest("edge shape " + shape, shape).edgeRun(wide, high, shape / 64);
         }
         Check.finish();
     }
@@ -73,9 +81,12 @@ public final class ReferenceTest {
 
     private void mixedRun() {
         call("sheet", between(3, 10), between(3, 10));
-        for (int k = 0; k < 120; k++) {
+        while (calls < LAST_CALL - 2) {
             change();
             ask();
+            ask();
+        }
+        while (calls < LAST_CALL) {
             ask();
         }
     }
@@ -186,6 +197,35 @@ public final class ReferenceTest {
         for (int k = 0; k < 60; k++) {
             call("cell", layer, between(0, plain.s.w - 1), between(0, plain.s.h - 1), between(0, 3));
         }
+    }
+
+    /** Empty, full, chequered, rings, stripes: on a sheet of each size. */
+    private void edgeRun(int wide, int high, int shape) {
+        call("sheet", wide, high);
+        for (int y = 0; y < high; y++) {
+            int bits = 0;
+            for (int x = 0; x < wide; x++) {
+                bits |= isOpen(shape, wide, high, x, y) ? 1 << x : 0;
+            }
+            call("row", 1, y, bits);
+        }
+        askAllOf(1);
+        call("count", 4);
+        call("best", 1);
+        call("paint", wide - 1, high - 1);
+        call("knife", 1, 2);
+    }
+
+    private static boolean isOpen(int shape, int wide, int high, int x, int y) {
+        int ring = Math.min(Math.min(x, wide - 1 - x), Math.min(y, high - 1 - y));
+        return switch (shape) {
+            case 0 -> false;
+            case 1 -> true;
+            case 2, 3 -> (x + y + shape) % 2 == 0;
+            case 4, 5 -> (ring + shape) % 2 == 0;
+            case 6 -> y % 2 == 0;
+            default -> x % 2 == 0 || y % 2 == 0;
+        };
     }
 
     private void smallRun(int side, int bits) {
