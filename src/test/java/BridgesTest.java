@@ -42,6 +42,10 @@ public final class BridgesTest {
         touching();
         touchingAtCorner();
         numbersOfBridges();
+        chosenInOrder();
+        propertiesOfLayer();
+        propertiesOfIsland();
+        propertiesOfBridge();
         looseAlone();
         looseTogether();
         lowerBoundBelow();
@@ -273,6 +277,57 @@ public final class BridgesTest {
                     x.cell(0, cells[b][0], cells[b][1], 3), b);
         }
         Check.due("(4, 2) is none", x.cell(0, 4, 2, 3), NONE);
+    }
+
+    private static void chosenInOrder() {
+        Check.sentence("The bridges of a layer are chosen from the runs in this order.");
+        // One cell, vertical; then two and three cells, horizontal.
+        StencilCuts x = Drawing.of(0,
+                "##########",
+                "###.######",
+                "##########",
+                "##.######.",
+                "#####.###.",
+                "##########",
+                "##########",
+                "##########");
+        Due.bridge("first", x, 0, 0, 3, 0, 1, 1, NONE, 0);
+        Due.bridge("second", x, 0, 1, 0, 3, 2, 0, NONE, 1);
+        Due.bridge("third", x, 0, 2, 6, 4, 3, 0, 2, NONE);
+        Due.layer("all", x, 0, 75, 3, 1, 3, 6, 0, 6, 12);
+    }
+
+    private static void propertiesOfLayer() {
+        Check.sentence("0 open cells (bridges do not matter), 1 islands, 2 holes, 3 bridges, 4 cells of"
+                + " bridges, 5 loose islands, 6 the lower bound, 7 runs");
+        Due.layer("cross", Drawing.of(0, CROSS), 0, 21, 4, 2, 4, 4, 0, 4, 14);
+        Due.layer("adrift", Drawing.of(3, ADRIFT), 3, 40, 6, 2, 5, 5, 2, 7, 21);
+        Due.layer("one long bridge", Drawing.of(1, "#####", "#####", "##.##", "#####", "#####"), 1,
+                24, 1, 1, 1, 2, 0, 2, 4);
+    }
+
+    private static void propertiesOfIsland() {
+        Check.sentence("0 the number of its cells, 1 its depth, 2 x and 3 y of its first cell, 4 whether"
+                + " it is loose (1 or 0), 5 the number of bridges of which it is an end");
+        StencilCuts x = Drawing.of(0, ADRIFT);
+        Due.island("tied", x, 0, 0, 1, 2, 3, 1, 0, 1);
+        Due.island("loose", x, 0, 1, 1, 2, 2, 3, 1, 1);
+        Due.island("tied", x, 0, 5, 1, 2, 3, 5, 0, 1);
+        Due.island("large", Drawing.of(0, "##########", "#........#", "#........#", "##########"), 0, 0,
+                16, 2, 1, 1, 0, 1);
+    }
+
+    private static void propertiesOfBridge() {
+        Check.sentence("0 x and 1 y of its first cell, 2 the number of its cells, 3 whether it is vertical"
+                + " (1 or 0), 4 the end before its first cell, 5 the end after its last cell (4 and 5: the"
+                + " island, or NONE for the frame)");
+        StencilCuts x = Drawing.of(0, "####", "####", "#..#", "#..#", "####", "####");
+        Due.bridge("left", x, 0, 0, 0, 2, 1, 0, NONE, 0);
+        // The bridge ends at a closed cell that is connected with the border: that is the frame's.
+        StencilCuts inner = Drawing.of(0, "#######", "#######", "..#.###", "#######", "#######");
+        Due.bridge("from a cell of the frame's piece", inner, 0, 0, 2, 2, 1, 0, NONE, 0);
+        StencilCuts after = Drawing.of(0, "#######", "#######", "###.#..", "#######", "#######");
+        Due.bridge("to a cell of the frame's piece", after, 0, 0, 4, 2, 1, 0, 0, NONE);
     }
 
     private static void looseAlone() {

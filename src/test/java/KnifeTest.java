@@ -16,6 +16,9 @@ public final class KnifeTest {
         commonCorners();
         loopAroundLooseIsland();
         numbersOfLoops();
+        cornersInOrder();
+        onlyLoopsThatAreNotCut();
+        airPath();
         beginsAtTheFirstCorner();
         distanceIsASum();
         backwards();
@@ -24,6 +27,7 @@ public final class KnifeTest {
         staysAtTheSameCorner();
         mostLoops();
         noSuchLoop();
+        propertiesOfLoop();
         whatOfKnifeAndLoop();
         Check.finish();
     }
@@ -134,6 +138,46 @@ public final class KnifeTest {
         Due.knife("hook", hook, 0, 22, 2, 4);
     }
 
+    private static void cornersInOrder() {
+        Check.sentence("Corners are ordered like cells.");
+        // The first corners are (4, 0), (1, 1) and (0, 3): by y, then by x.
+        StencilCuts x = cellsOf(6, 5, 0, 3, 4, 0, 1, 1);
+        x.cut(0, 5, 0, 1);
+        Check.due("loops", x.knife(0, 1), 3);
+        Due.loop("(1, 1) is the second one", x, 0, 0, 1, 4, 1, 1);
+        Due.loop("(0, 3) is the last one", x, 0, 1, 2, 4, 1, 3);
+        Due.loop("(4, 0) is the first one", x, 0, 2, 0, 6, 4, 1);
+        StencilCuts row = cellsOf(7, 3, 4, 1, 0, 1, 2, 1);
+        for (int k = 0; k < 3; k++) {
+            Due.loop("in one row", row, 0, k, k, 4, 2 * k, 1);
+        }
+    }
+
+    private static void onlyLoopsThatAreNotCut() {
+        Check.sentence("Of all corners of the loops that it has not cut yet, it goes through the air to"
+                + " the nearest one");
+        // Between (1, 0) and (4, 0) lie two more corners of the loop that is cut already.
+        StencilCuts x = Drawing.of(0, ".##.#", ".....", ".....");
+        Due.loop("the first one", x, 0, 0, 0, 6, 1, 0);
+        Due.loop("the other one", x, 0, 1, 1, 4, 4, 0);
+        Check.due("none is cut twice", x.loop(0, 2, 0), NONE);
+        // The nearest corner of a loop need not be its first one.
+        StencilCuts bar = Drawing.of(0, "...###", "...#..", ".###..");
+        Due.loop("the first corner, as near as (1, 2)", bar, 0, 0, 0, 16, 3, 0);
+        StencilCuts low = Drawing.of(0, "....##", "....#.", ".####.");
+        Due.loop("not the first corner", low, 0, 0, 0, 16, 1, 2);
+    }
+
+    private static void airPath() {
+        Check.sentence("The air path is the sum of all distances that it goes through the air.");
+        Check.due("none", new StencilCuts().knife(0, 2), 0);
+        Check.due("from (0, 0) to the first loop", cellsOf(5, 5, 2, 1).knife(0, 2), 3);
+        Check.due("and to the next one", cellsOf(5, 5, 2, 1, 2, 3).knife(0, 2), 3 + 2);
+        Check.due("and to the last one", cellsOf(5, 5, 2, 1, 2, 3, 4, 3).knife(0, 2), 3 + 2 + 2);
+        Check.due("nothing for the way back", cellsOf(10, 10, 9, 9).knife(0, 2), 18);
+        Check.due("nothing for the cuts", Drawing.full(0, 10, 10).knife(0, 2), 0);
+    }
+
     private static void beginsAtTheFirstCorner() {
         Check.sentence("The knife begins at corner (0, 0).");
         Due.knife("no way", Drawing.of(0, "#..", "...", "..."), 0, 4, 1, 0);
@@ -234,6 +278,18 @@ public final class KnifeTest {
             Check.due("another layer, " + what, x.loop(1, 0, what), NONE);
         }
         Check.due("the last one", x.loop(0, 3, 1), 4);
+    }
+
+    private static void propertiesOfLoop() {
+        Check.sentence("0 the number of the loop, 1 the number of its edges, 2 x and 3 y of the corner at"
+                + " which the knife comes to it");
+        StencilCuts x = Drawing.of(1, "...##.", "......", "#.....", "##....");
+        Due.loop("the one below", x, 1, 0, 1, 8, 0, 2);
+        Due.loop("the one above", x, 1, 1, 0, 6, 3, 1);
+        Check.sentence("the position in this order, from 0");
+        Check.due("position 2", x.loop(1, 2, 0), NONE);
+        Check.sentence("0 the number of edges, 1 the number of loops, 2 the air path");
+        Due.knife("both", x, 1, 14, 2, 2 + 4);
     }
 
     private static void whatOfKnifeAndLoop() {

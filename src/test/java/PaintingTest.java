@@ -1,5 +1,6 @@
 import java.util.ArrayList;
 import java.util.List;
+import java.util.Random;
 
 /** The sentences under PAINTING, and those of promises 12 to 14. */
 public final class PaintingTest {
@@ -8,6 +9,18 @@ public final class PaintingTest {
 
     // All orders as texts of four layers, the smallest first.
     private static final List<String> ORDERS = orders();
+
+    // For each two orders that follow one another, cells by which these two are the smallest of the
+    // best ones: the smaller order, then the set of open layers and the wish of each cell.
+    private static final int[][] TIES = {
+        {123, 6, 3, 6, 3}, {132, 7, 2, 15, 3}, {213, 7, 2, 7, 2}, {231, 10, 2, 9, 4},
+        {312, 13, 3, 11, 2}, {321, 15, 2, 3, 1, 12, 3, 14, 4}, {1023, 3, 1, 5, 3},
+        {1032, 13, 3, 5, 1, 3, 1}, {1203, 3, 1, 5, 1}, {1230, 9, 1, 3, 1}, {1302, 9, 1, 14, 3},
+        {1320, 5, 1, 6, 2, 14, 3}, {2013, 5, 1, 3, 2}, {2031, 3, 1, 15, 2, 5, 1, 6, 2},
+        {2103, 7, 1, 6, 2}, {2130, 9, 1, 6, 2}, {2301, 14, 2, 9, 1},
+        {2310, 10, 2, 9, 1, 5, 3, 7, 1}, {3012, 12, 3, 3, 2, 9, 1},
+        {3021, 12, 3, 11, 1, 10, 2, 7, 2, 9, 1}, {3102, 10, 2, 14, 3, 3, 1},
+        {3120, 5, 1, 12, 3, 10, 2}, {3201, 6, 2, 5, 1, 12, 3}};
 
     public static void main(String[] args) {
         numbersThatAreOrders();
@@ -19,6 +32,9 @@ public final class PaintingTest {
         noneWrongAndAllWrong();
         eachOrderCanBeBest();
         smallestOfSeveral();
+        smallestOfTwo();
+        smallestOfNeighbours();
+        bestOfAllOrders();
         notMoreCellsWrong();
         paintByTheBestOrder();
         refused();
@@ -206,6 +222,69 @@ public final class PaintingTest {
         Check.due("0 below 1", oneCell(3, 2).best(0), 123);
     }
 
+    /** The first two layers of the order are settled, the other two are as good in either order. */
+    private static void smallestOfTwo() {
+        Check.sentence("of several, the lexicographically smallest one");
+        for (String order : ORDERS) {
+            StencilCuts x = new StencilCuts();
+            int[][] below = {{0, 1}, {1, 2}, {1, 3}};
+            for (int k = 0; k < 3; k++) {
+                int lower = layerAt(order, below[k][0]);
+                int upper = layerAt(order, below[k][1]);
+                x.cut(lower, k, 0, 1);
+                x.cut(upper, k, 0, 1);
+                x.wish(k, 0, upper + 1);
+            }
+            String other = order.substring(0, 2) + order.charAt(3) + order.charAt(2);
+            Check.due("best of two, " + order, x.best(0), Math.min(numberOf(order), numberOf(other)));
+            Check.due("both are as good, " + order, x.best(2), 2);
+        }
+    }
+
+    private static void smallestOfNeighbours() {
+        Check.sentence("of several, the lexicographically smallest one");
+        Check.due("ties", TIES.length, ORDERS.size() - 1);
+        for (int t = 0; t < TIES.length; t++) {
+            StencilCuts x = new StencilCuts();
+            for (int k = 1; k < TIES[t].length; k += 2) {
+                for (int layer = 0; layer < 4; layer++) {
+                    x.cut(layer, k / 2, 0, TIES[t][k] >> layer & 1);
+                }
+                x.wish(k / 2, 0, TIES[t][k + 1]);
+            }
+            Check.due("best", x.best(0), TIES[t][0]);
+            Check.due("the order", TIES[t][0], numberOf(ORDERS.get(t)));
+            Check.due("the next order is as good as " + TIES[t][0],
+                    x.wrong(numberOf(ORDERS.get(t + 1))), x.best(1));
+        }
+    }
+
+    /** What best answers is what wrong says of all orders, the smallest first. */
+    private static void bestOfAllOrders() {
+        Check.sentence("The best order is the one by which the fewest cells are wrong; of several, the"
+                + " lexicographically smallest one.");
+        Random random = new Random(14);
+        for (int run = 0; run < 400; run++) {
+            StencilCuts x = new StencilCuts();
+            for (int k = 0; k < 12; k++) {
+                x.row(random.nextInt(4), random.nextInt(3), random.nextInt(1024));
+                x.wish(random.nextInt(8), random.nextInt(3), random.nextInt(5));
+            }
+            int least = 65;
+            int best = 0;
+            int asGood = 0;
+            for (String order : ORDERS) {
+                int wrong = x.wrong(numberOf(order));
+                asGood = wrong < least ? 1 : wrong == least ? asGood + 1 : asGood;
+                best = wrong < least ? numberOf(order) : best;
+                least = Math.min(least, wrong);
+            }
+            Check.due("best(0), run " + run, x.best(0), best);
+            Check.due("best(1), run " + run, x.best(1), least);
+            Check.due("best(2), run " + run, x.best(2), asGood);
+        }
+    }
+
     private static void notMoreCellsWrong() {
         Check.sentence("2 the number of orders by which not more cells are wrong");
         Check.due("all orders", new StencilCuts().best(2), 24);
@@ -247,6 +326,12 @@ public final class PaintingTest {
     }
 
     private static void refused() {
+        Check.sentence("Returns the number of wrong cells; OUTSIDE if order is not an order.");
+        StencilCuts painted = oneCell(1, 2);
+        Check.due("an order", painted.wrong(2310), 1);
+        for (int order : new int[] {231, 2311, 2314, 12310, -2310, 0, LOW, HIGH}) {
+            Check.due("wrong " + order, painted.wrong(order), order == 231 ? 1 : OUTSIDE);
+        }
         Check.sentence("Returns the value; OUTSIDE if what is out of range.");
         StencilCuts x = new StencilCuts();
         for (int what : new int[] {LOW, -1, 3, 4, HIGH}) {
