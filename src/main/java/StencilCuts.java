@@ -764,16 +764,22 @@ public final class StencilCuts {
 
         void build() {
             untieAll();
-            System.arraycopy(parts.open, 0, open, 0, PLACES);
-            Arrays.fill(bridgeAt, NONE);
-            chosen = 0;
-            cells = 0;
+            removeAll();
             for (int r = 0; r < runs; r++) {
                 if (isUntied(run[r]) && isClear(run[r])) {
                     tieEnds(run[r]);
                     addBridge(run[r]);
                 }
             }
+        }
+
+        private void removeAll() {
+            for (int place = 0; place < PLACES; place++) {
+                open[place] = parts.open[place];
+                bridgeAt[place] = NONE;
+            }
+            chosen = 0;
+            cells = 0;
         }
 
         private void untieAll() {
