@@ -158,7 +158,7 @@ public final class StencilCuts {
         }
         Plan plan = plans[layer].bridged(current, layer);
         int part = plan.parts.partOfIsland(i);
-        if (part == NONE) {
+        if (!isWithin(part, 0, plan.parts.count - 1)) {
             return NONE;
         }
         switch (what) {
@@ -235,7 +235,10 @@ public final class StencilCuts {
             return NONE;
         }
         int corner = knife.way[k];
-        int number = knife.loopAt[corner];
+        int number = knife.loopOf(corner);
+        if (number == NONE) {
+            return NONE;
+        }
         switch (what) {
             case 0:
                 return number;
@@ -511,6 +514,7 @@ public final class StencilCuts {
         Plan bridged(Sheet sheet, int layer) {
             if (!bridgesFresh) {
                 parts.find(sheet, layer);
+                parts.findDepths();
                 bridges.runs = 0;
                 bridges.findRuns(0);
                 bridges.findRuns(1);
@@ -568,7 +572,6 @@ public final class StencilCuts {
                     addPart(place);
                 }
             }
-            findDepths();
         }
 
         private void lay(Sheet sheet, int layer) {
@@ -614,7 +617,7 @@ public final class StencilCuts {
         }
 
         // Neighbouring parts always differ in being open, so each step between parts is a change.
-        private void findDepths() {
+        void findDepths() {
             Arrays.fill(depth, NONE);
             depth[FRAME] = 0;
             boolean deeper = true;
@@ -626,13 +629,13 @@ public final class StencilCuts {
         private boolean reachFrom(int level) {
             boolean reached = false;
             for (int place = 0; place < PLACES; place++) {
-                if (depth[partAt[place]] != level) {
+                if (depth[partOf(place)] != level) {
                     continue;
                 }
                 for (int step : STEPS) {
-                    int next = place + step;
-                    if (isPlace(next) && depth[partAt[next]] == NONE) {
-                        depth[partAt[next]] = level + 1;
+                    int next = partOf(place + step);
+                    if (depth[next] == NONE) {
+                        depth[next] = level + 1;
                         reached = true;
                     }
                 }
@@ -640,16 +643,26 @@ public final class StencilCuts {
             return reached;
         }
 
+        /** The part at the place, which is the frame's piece beyond the places. */
+        int partOf(int place) {
+            int part = isPlace(place) ? partAt[place] : FRAME;
+            return isWithin(part, 0, count - 1) ? part : FRAME;
+        }
+
+        private boolean isOpen(int place) {
+            return isPlace(place) && open[place];
+        }
+
         int islandAt(int place) {
-            return open[place] ? NONE : number[partAt[place]];
+            return isOpen(place) ? NONE : number[partOf(place)];
         }
 
         int holeAt(int place) {
-            return open[place] ? number[partAt[place]] : NONE;
+            return isOpen(place) ? number[partOf(place)] : NONE;
         }
 
         boolean isIsland(int part) {
-            return part != FRAME && !open[first[part]];
+            return part != FRAME && isWithin(part, 0, count - 1) && !isOpen(first[part]);
         }
 
         int partOfIsland(int island) {
@@ -720,7 +733,7 @@ public final class StencilCuts {
                 if (parts.open[start] && !parts.open[start - step]) {
                     int length = lengthFrom(start, step);
                     int found = (length * 2 + vertical) * PLACES + start;
-                    if (pieceAt(placeBefore(found)) != pieceAt(placeAfter(found))) {
+                    if (parts.partOf(placeBefore(found)) != parts.partOf(placeAfter(found))) {
                         insertRun(found);
                     }
                 }
@@ -733,10 +746,6 @@ public final class StencilCuts {
                 length++;
             }
             return length;
-        }
-
-        private int pieceAt(int place) {
-            return isPlace(place) ? parts.partAt[place] : FRAME;
         }
 
         private void insertRun(int found) {
@@ -789,12 +798,14 @@ public final class StencilCuts {
         }
 
         private boolean isUntied(int candidate) {
-            return group[pieceAt(placeBefore(candidate))] != group[pieceAt(placeAfter(candidate))];
+            int before = parts.partOf(placeBefore(candidate));
+            int after = parts.partOf(placeAfter(candidate));
+            return group[before] != group[after];
         }
 
         private void tieEnds(int tying) {
-            int kept = group[pieceAt(placeBefore(tying))];
-            int joined = group[pieceAt(placeAfter(tying))];
+            int kept = group[parts.partOf(placeBefore(tying))];
+            int joined = group[parts.partOf(placeAfter(tying))];
             for (int part = 0; part < parts.count; part++) {
                 if (group[part] == joined) {
                     group[part] = kept;
@@ -828,6 +839,9 @@ public final class StencilCuts {
         }
 
         private void addBridge(int added) {
+            if (chosen >= MOST_RUNS) {
+                return;
+            }
             int place = startOf(added);
             int length = lengthOf(added);
             for (int k = 0; k < length && isPlace(place); k++) {
@@ -857,8 +871,8 @@ public final class StencilCuts {
         int bridgesOf(int part) {
             int found = 0;
             for (int b = 0; b < chosen; b++) {
-                if (pieceAt(placeBefore(bridge[b])) == part
-                        || pieceAt(placeAfter(bridge[b])) == part) {
+                if (parts.partOf(placeBefore(bridge[b])) == part
+                        || parts.partOf(placeAfter(bridge[b])) == part) {
                     found++;
                 }
             }
@@ -953,14 +967,21 @@ public final class StencilCuts {
             int at = placeOf(0, 0);
             for (int k = 0; k < loops; k++) {
                 int next = nearestFrom(at);
-                if (next == NONE) {
+                int loop = loopOf(next);
+                if (loop == NONE) {
                     return;
                 }
                 airPath += distance(at, next);
-                isCut[loopAt[next]] = true;
+                isCut[loop] = true;
                 way[k] = next;
                 at = next;
             }
+        }
+
+        /** The loop that has this corner; NONE if there is none. */
+        int loopOf(int corner) {
+            int loop = isPlace(corner) ? loopAt[corner] : NONE;
+            return isWithin(loop, 0, loops - 1) ? loop : NONE;
         }
 
         private int nearestFrom(int at) {
@@ -968,7 +989,7 @@ public final class StencilCuts {
             int least = PLACES;
             int lowest = MOST_LOOPS;
             for (int corner = 0; corner < PLACES; corner++) {
-                int loop = loopAt[corner];
+                int loop = loopOf(corner);
                 if (loop == NONE || isCut[loop]) {
                     continue;
                 }
